@@ -34,6 +34,7 @@ public final class PackedColumnsPromises {
     promise9Ties();
     promise9Bounds();
     promise9Wrapping();
+    promise9Patched();
     promise10();
     promise11();
     promise12();
@@ -49,6 +50,7 @@ public final class PackedColumnsPromises {
     promise21();
     promise22();
     badColumns();
+    fullTable();
     System.out.println(looked + " answers looked at, " + wrong + " not as due");
     if (wrong != 0) {
       System.exit(1);
@@ -81,6 +83,17 @@ public final class PackedColumnsPromises {
     for (int i = 0; i < 20; i++) {
       due("patchedUp change " + i, t.change(i, 2, 50 + i), 7);
     }
+    return t;
+  }
+
+  /** Only the row (4, 0, 0) is left; others went with compact. */
+  private static PackedColumns shrunk() {
+    PackedColumns t = first(3, 4, 2, 2, 2);
+    t.delete(0);
+    t.delete(2);
+    t.delete(3);
+    t.delete(4);
+    t.compact();
     return t;
   }
 
@@ -270,6 +283,12 @@ public final class PackedColumnsPromises {
     due("5: not patched", t.patches(), 0);
     due("5: patched from the first change on", t.change(5, 2, 9), 8);
     due("5: patches", t.patches(), 1);
+    t.change(0, 0, 70);
+    t.change(31, 2, 70);
+    t.compact();
+    t.change(0, 0, 71);
+    t.change(31, 2, 71);
+    due("5: the first and the last place anew", t.patches(), 2);
     PackedColumns s = patchedUp();
     s.delete(31);
     due("5: to loose rows", s.compact(), 31);
@@ -394,6 +413,27 @@ public final class PackedColumnsPromises {
     formDue("9 no wrapped frame", 3, 128, MIN, MAX, MIN + 1, MAX, MIN, MAX, MIN, MAX, MIN, MAX, MIN, MAX, MIN, MAX, MIN, MAX);
     // the steps are ints, their greatest less their least is not
     formDue("9 no wrapped span of steps", 0, 512, MIN + 1, 0, MAX, 1, MIN + 2, 2, MAX - 2, 3, MIN + 4, 4, MAX - 4, 5, MIN + 6, 6, MAX - 6, 7);
+  }
+
+  /** Patches place after place: form and digits stay those of the packed values until compact. */
+  private static void patchedFormDue(String what, int form, int digits, int... values) {
+    PackedColumns t = first(values);
+    for (int i = 0; i < 16; i++) {
+      t.change(i, 0, i % 3 == 0 ? MAX - 7 * i : MIN + 1000 * i);
+      due(what + ": form after " + i, t.form(0, 0), form);
+      due(what + ": digits after " + i, t.digits(0), digits);
+    }
+    due(what + ": patches", t.patches(), 16);
+    t.compact();
+    due(what + ": packed anew", t.form(0, 0), 0);
+    due(what + ": digits anew", t.digits(0), 512);
+  }
+
+  private static void promise9Patched() {
+    patchedFormDue("9 patched runs", 2, 74, 5, 5, 5, 5, 5, 5, 5, 900, 900, 900, 900, 900, 900, 900, 900, 900);
+    patchedFormDue("9 patched list", 3, 80, 0, MAX, 0, MAX, 0, MAX, 0, MAX, 0, MAX, 0, MAX, 0, MAX, 0, MAX);
+    patchedFormDue("9 patched frame", 4, 54, 8, 9, 8, 9, 8, 9, 8, 9, 8, 9, 8, 9, 8, 9, 8, 9);
+    patchedFormDue("9 patched steps", 5, 70, 9, 19, 29, 39, 49, 59, 69, 79, 89, 99, 109, 119, 129, 139, 149, 159);
   }
 
   private static void promise10() {
@@ -619,6 +659,8 @@ public final class PackedColumnsPromises {
     due("19: within, first", t.ranked(0, 0), 5);
     due("19: within, last", t.ranked(0, 2), 5);
     due("19: within, behind it", t.ranked(0, 3), NONE);
+    due("19: row 0", first(9, 8).ranked(0, 0), 9);
+    due("19: rows that went", shrunk().ranked(0, 1), NONE);
     PackedColumns s = counted(20);
     s.condition(0, 15, 17);
     due("19: another column", s.ranked(1, 0), 85);
@@ -650,6 +692,8 @@ public final class PackedColumnsPromises {
     due("21: all once", first(4, -4, MIN, MAX).commonest(0), MIN);
     due("21: above NONE", first(8, 7).commonest(0), 7);
     due("21: below NONE", first(-1000000005, -1000000005, 1).commonest(0), -1000000005);
+    due("21: row 0", first(1, 2).commonest(0), 1);
+    due("21: rows that went", shrunk().commonest(0), 4);
     PackedColumns t = first(1, 9, 9, 2, 2, 9);
     t.delete(1);
     due("21: not the deleted", t.commonest(0), 2);
@@ -694,5 +738,32 @@ public final class PackedColumnsPromises {
     due("bad column, patches", t.patches(), 0);
     due("bad column, no condition", t.free(), 0);
     due("bad column, rows", t.count(), 19);
+  }
+
+  /** All 96 rows: the last one counts in every question, and none looks behind it. */
+  private static void fullTable() {
+    PackedColumns t = counted(96);
+    due("96 rows: count", t.count(), 96);
+    due("96 rows: chosen", t.chosen(95), 95);
+    due("96 rows: chosen, none", t.chosen(96), NONE);
+    due("96 rows: sum", t.sum(0), 4560);
+    due("96 rows: least", t.least(1), 5);
+    due("96 rows: ranked", t.ranked(1, 95), 5);
+    due("96 rows: ranked, none", t.ranked(1, 96), NONE);
+    due("96 rows: different", t.different(0), 96);
+    due("96 rows: commonest", t.commonest(1), 5);
+    due("96 rows: form", t.form(5, 1), 5);
+    due("96 rows: digits", t.digits(2), 192);
+    due("96 rows: change", t.change(95, 2, 1), 7);
+    due("96 rows: change, none", t.change(96, 2, 1), NONE);
+    due("96 rows: value", t.value(95, 2), 1);
+    due("96 rows: value, none", t.value(96, 2), NONE);
+    due("96 rows: delete, none", t.delete(96), NONE);
+    due("96 rows: condition", t.condition(2, 1, 1), 1);
+    due("96 rows: passed", t.passed(), 6);
+    due("96 rows: compact", t.compact(), 96);
+    due("96 rows: passed after compact", t.passed(), 5);
+    due("96 rows: delete", t.delete(95), 95);
+    due("96 rows: none chosen", t.count(), 0);
   }
 }
