@@ -34,6 +34,7 @@ public final class BoundariesOfTheForms extends SentenceTest {
   private static void choice() {
     sentence("in the form that takes the fewest digits", BoundariesOfTheForms::fewest);
     sentence("of several the one with the least number", BoundariesOfTheForms::ties);
+    sentence("later changes of values in it are PATCHES, which are kept beside it", BoundariesOfTheForms::patchesTakeNothing);
   }
 
   private static void promises9And10() {
@@ -293,6 +294,10 @@ public final class BoundariesOfTheForms extends SentenceTest {
   private static void stepsWidths() {
     packs("all steps the same", 5, 70, stepped(0, 0));
     packs("all steps the same, falling", 5, 70, mirrored(stepped(0, 0)));
+    for (int at = 0; at < 15; at++) {
+      stepsWidth("one step more, at " + at, 9, stepped(at, 511), stepped(at, 512));
+      stepsWidth("one step less, at " + at, 9, steppedBack(at, 511), steppedBack(at, 512));
+    }
     for (int w = 0; w <= 29; w++) {
       long power = 1L << w;
       for (int at : new int[] {0, 7, 14}) {
@@ -347,6 +352,31 @@ public final class BoundariesOfTheForms extends SentenceTest {
     int step = (end - more) / 15;
     int rest = end - more - 15 * step;
     return block(i -> i == 0 ? 0 : more + i * step + (i - 1 < rest ? i - 1 : rest));
+  }
+
+  private static void patchesTakeNothing() {
+    patched("plain", 0, 512, WIDE);
+    patched("single", 1, 32, block(i -> 9));
+    patched("runs", 2, 74, block(i -> WIDE[i / 8]));
+    patched("list", 3, 80, block(i -> WIDE[i % 2]));
+    patched("frame", 4, 54, block(i -> i % 2));
+    patched("steps", 5, 70, block(i -> 10 * i));
+  }
+
+  /** Patched row by row, upwards and downwards, until no value is left that it was packed with. */
+  private static void patched(String what, int form, int digits, int[] v) {
+    for (int c = 0; c < 3; c++) {
+      Table up = appended(c, v);
+      Table down = appended(c, v);
+      for (int i = 0; i < 16; i++) {
+        up.change(i, c, v[i] + 1000003 * (i + 1));
+        asDue(what + ", patched up to " + i, up, c, form, digits);
+        down.change(15 - i, c, 8);
+        asDue(what + ", patched down to " + (15 - i), down, c, form, digits);
+      }
+      down.compact();
+      asDue(what + ", packed anew", down, c, 1, 32);
+    }
   }
 
   // ---- Promises 9 and 10 ----

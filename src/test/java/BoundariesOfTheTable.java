@@ -670,6 +670,26 @@ public final class BoundariesOfTheTable extends SentenceTest {
     due("none from then on", t.patches(), 0);
     due("the place that was patched", t.change(0, 2, 1), 55);
     due("is patched anew", t.patches(), 1);
+    Table s = Table.patched(32, 20);
+    s.delete(31);
+    due("compact to loose rows", s.compact(), 31);
+    due("a loose row that was patched", s.change(19, 2, 1), 69);
+    due("is not", s.patches(), 0);
+    due("its block's last row", s.append(1, 1, 1), 31);
+    due("the same place", s.change(19, 2, 2), 1);
+    due("is patched now", s.patches(), 1);
+    for (int place = 0; place < 288; place++) {
+      due("patches of place " + place + " in two rounds", twoRounds(place % 96, place / 96), 1);
+    }
+  }
+
+  /** The patches of a table with one place that is patched, packed anew, and patched once more. */
+  private static int twoRounds(int r, int c) {
+    Table t = Table.counted(96);
+    t.change(r, c, MIN);
+    t.compact();
+    t.change(r, c, MAX);
+    return t.patches();
   }
 
   private static void deletedPatchesAtTheLimit() {

@@ -11,7 +11,7 @@ final class Sequels {
 
   static final List<Consumer<Table>> ALL = List.of(
       Sequels::values, Sequels::looks, Sequels::ranks, Sequels::changes, Sequels::anew, Sequels::growth,
-      Sequels::deletions, t -> packed(t, 0), t -> packed(t, 1), t -> packed(t, 2));
+      Sequels::growthAndChanges, Sequels::deletions, t -> packed(t, 0), t -> packed(t, 1), t -> packed(t, 2));
 
   private Sequels() {}
 
@@ -86,6 +86,19 @@ final class Sequels {
     sizes(t);
     t.free();
     sizes(t);
+  }
+
+  /** What a call left at the number of a row that comes later is seen only then. */
+  private static void growthAndChanges(Table t) {
+    for (int i = 0; i < 76; i++) {
+      t.append(i, i, i);
+    }
+    for (int c = 0; c < 3; c++) {
+      for (int r = 0; r < 96; r++) {
+        t.change(r, c, STRANGE + 2);
+      }
+    }
+    t.patches();
   }
 
   private static void deletions(Table t) {
